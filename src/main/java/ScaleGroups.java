@@ -177,7 +177,7 @@ public final class ScaleGroups {
             case 7:
                 return now.joinsAbove[join];
             case 8:
-                return now.lasts(JOIN_NODE + join);
+                return now.lastsOf(JOIN_NODE + join);
             case 9:
                 return ahead.hasPair(now.pairs[join]) ? 0 : 1;
             default:
@@ -338,13 +338,7 @@ public final class ScaleGroups {
             return NONE;
         }
         scale.cut(now, z);
-        int centred = scale.centresIn(x0, x1, y0, y1);
-        for (int g = 0; g < scale.count; g++) {
-            if (Sets.has(centred, g) && scale.rankAmong(centred, g) == i) {
-                return g;
-            }
-        }
-        return NONE;
+        return scale.heaviest(scale.centresIn(x0, x1, y0, y1), i);
     }
 
     public int filled(int z, int i) {
@@ -383,8 +377,8 @@ public final class ScaleGroups {
                 int x = points.xs[a];
                 int y = points.ys[b];
                 int weight = points.weightWithin(x, x + reach, y, y + reach);
-                boolean ahead = x < bestX || x == bestX && y < bestY;
-                if (weight > bestWeight || weight == bestWeight && ahead) {
+                boolean isFirst = x < bestX || x == bestX && y < bestY;
+                if (weight > bestWeight || weight == bestWeight && isFirst) {
                     bestX = x;
                     bestY = y;
                     bestWeight = weight;
@@ -447,9 +441,8 @@ public final class ScaleGroups {
         other.cut(now, z + 1);
         int sum = 0;
         for (int g = 0; g < other.count; g++) {
-            int least = Sets.least(other.sets[g]);
-            if (least >= 0 && least < now.points.count) {
-                int whole = scale.groupAt[least];
+            int whole = scale.groupOfPart(other.sets[g]);
+            if (whole != NONE) {
                 sum += Sets.farther(other.xs[g] - scale.xs[whole], other.ys[g] - scale.ys[whole]);
             }
         }
@@ -577,7 +570,7 @@ public final class ScaleGroups {
         if (what < 0 || what > 1 || !now.points.canCome(x, y)) {
             return NO_WOULD;
         }
-        tried.points.take(now.points);
+        tried.points.copy(now.points);
         tried.points.put(x, y, 1);
         tried.rebuild();
         return what == 0 ? tried.countUnlike(now) : tried.sumAparts() - now.sumAparts();
@@ -665,7 +658,7 @@ public final class ScaleGroups {
         Order freed = ahead;
         ahead = now;
         now = freed;
-        now.points.take(ahead.points);
+        now.points.copy(ahead.points);
     }
 
     private int draw(int m) {
@@ -778,9 +771,9 @@ public final class ScaleGroups {
             return NONE;
         }
 
-        /** The least of what the row (of 24) holds at the numbers of a set. */
+        /** The least of the x or y that the row holds at the numbers of a set. */
         static int lowest(int[] row, int set) {
-            int lowest = Integer.MAX_VALUE;
+            int lowest = SIDE;
             for (int i = 0; i < row.length; i++) {
                 if (has(set, i)) {
                     lowest = Math.min(lowest, row[i]);
@@ -790,7 +783,7 @@ public final class ScaleGroups {
         }
 
         static int highest(int[] row, int set) {
-            int highest = Integer.MIN_VALUE;
+            int highest = NONE;
             for (int i = 0; i < row.length; i++) {
                 if (has(set, i)) {
                     highest = Math.max(highest, row[i]);
@@ -870,7 +863,7 @@ public final class ScaleGroups {
             ws[to] = ws[from];
         }
 
-        void take(Points from) {
+        void copy(Points from) {
             count = from.count;
             for (int i = 0; i < count; i++) {
                 xs[i] = from.xs[i];
@@ -892,9 +885,9 @@ public final class ScaleGroups {
         /** The other POINT of the first PAIR of p: of like ones that with the least other one is first in ORDER. */
         int nearestTo(int p) {
             int nearest = NONE;
-            int least = Integer.MAX_VALUE;
+            int least = 0;
             for (int q = 0; q < count; q++) {
-                if (q != p && apart(p, q) < least) {
+                if (q != p && (nearest == NONE || apart(p, q) < least)) {
                     nearest = q;
                     least = apart(p, q);
                 }
@@ -1030,6 +1023,9 @@ public final class ScaleGroups {
         }
 
         private void putKey(long key) {
+            if (count >= MOST) {
+                return;
+            }
             int j = count;
             while (j > 0 && keys[j - 1] > key) {
                 keys[j] = keys[j - 1];
@@ -1042,6 +1038,9 @@ public final class ScaleGroups {
         private void makeJoin(int j) {
             int p = (int) (keys[j] >> 5 & 31);
             int q = (int) (keys[j] & 31);
+            if (p >= points.count || q >= points.count) {
+                return;
+            }
             aparts[j] = (int) (keys[j] >> 10);
             roots[j] = Sets.root(aparts[j]);
             firsts[j] = p;
@@ -1065,26 +1064,36 @@ public final class ScaleGroups {
         }
 
         private void putBelow(int node, int join) {
-            if (node >= JOIN_NODE) {
-                joinsAbove[node - JOIN_NODE] = join;
-            } else {
+            int part = joinOf(node);
+            if (part != NONE) {
+                joinsAbove[part] = join;
+            } else if (node >= 0 && node < MOST) {
                 pointsAbove[node] = join;
             }
         }
 
-        /** The POINTS of a NODE. */
-        int setOf(int node) {
-            return node >= JOIN_NODE ? parts[node - JOIN_NODE] : 1 << node;
+        /** The JOIN that a NODE is; NONE of a POINT. */
+        static int joinOf(int node) {
+            return node >= JOIN_NODE && node < JOIN_NODE + MOST ? node - JOIN_NODE : NONE;
         }
 
-        int lasts(int node) {
-            boolean isJoin = node >= JOIN_NODE;
-            int above = isJoin ? joinsAbove[node - JOIN_NODE] : pointsAbove[node];
-            if (above < 0 || above >= count) {
-                return 0;
+        /** The POINTS of a NODE. */
+        int setOf(int node) {
+            int join = joinOf(node);
+            return join != NONE ? parts[join] : 1 << node;
+        }
+
+        int lastsOf(int node) {
+            int join = joinOf(node);
+            if (join != NONE) {
+                return weightTill(parts[join], roots[join], joinsAbove[join]);
             }
-            int own = isJoin ? roots[node - JOIN_NODE] : 0;
-            return points.weightOf(setOf(node)) * (roots[above] - own);
+            return node >= 0 && node < MOST ? weightTill(1 << node, 0, pointsAbove[node]) : 0;
+        }
+
+        /** WEIGHT of a part times how much ROOT rises from its own till the JOIN of which it is a SIDE. */
+        private int weightTill(int part, int root, int above) {
+            return above >= 0 && above < count ? points.weightOf(part) * (roots[above] - root) : 0;
         }
 
         /** The part of a POINT by the first JOINS. */
@@ -1241,6 +1250,16 @@ public final class ScaleGroups {
             return within;
         }
 
+        /** The GROUP of which a set of POINTS is a part; NONE without. */
+        int groupOfPart(int set) {
+            for (int g = 0; g < count; g++) {
+                if ((set & ~sets[g]) == 0) {
+                    return g;
+                }
+            }
+            return NONE;
+        }
+
         int centresIn(int x0, int x1, int y0, int y1) {
             int centred = 0;
             for (int g = 0; g < count; g++) {
@@ -1261,8 +1280,17 @@ public final class ScaleGroups {
             return sum;
         }
 
-        /** How many of the groups stand ahead of one: by WEIGHT, the greatest first, then by number. */
-        int rankAmong(int groups, int group) {
+        /** The i-th of some GROUPS: by WEIGHT, the greatest first, then by number; NONE without. */
+        int heaviest(int groups, int i) {
+            for (int g = 0; g < count; g++) {
+                if (Sets.has(groups, g) && countAhead(groups, g) == i) {
+                    return g;
+                }
+            }
+            return NONE;
+        }
+
+        private int countAhead(int groups, int group) {
             int rank = 0;
             for (int g = 0; g < count; g++) {
                 boolean isAhead = weights[g] > weights[group] || weights[g] == weights[group] && g < group;
@@ -1273,6 +1301,7 @@ public final class ScaleGroups {
             return rank;
         }
 
+        /** How far the CENTRES of two GROUPS are from one another. */
         int gap(int g, int h) {
             return Sets.farther(xs[g] - xs[h], ys[g] - ys[h]);
         }
@@ -1283,19 +1312,17 @@ public final class ScaleGroups {
         int count = 0;
         final int[] visible = new int[MOST];
         final int[] holders = new int[MOST];
-        private final int[] ranked = new int[MOST];
 
         Labels() {
         }
 
         void lay(Scale scale, int room) {
-            rank(scale);
+            int waiting = Sets.first(scale.count);
             count = 0;
             for (int i = 0; i < scale.count; i++) {
-                int group = ranked[i];
-                int nearest = nearestTo(scale, group);
-                holders[group] = NONE;
-                if (nearest == NONE || scale.gap(group, visible[nearest]) > room) {
+                int group = scale.heaviest(Sets.first(scale.count), i);
+                if (group != NONE && isClear(scale, group, room)) {
+                    waiting &= ~(1 << group);
                     holders[group] = count;
                     visible[count] = group;
                     count++;
@@ -1303,25 +1330,23 @@ public final class ScaleGroups {
             }
             // Only now, as one SHOWN later may be nearer than those that hid it.
             for (int g = 0; g < scale.count; g++) {
-                if (holders[g] == NONE) {
+                if (Sets.has(waiting, g)) {
                     holders[g] = nearestTo(scale, g);
                 }
             }
         }
 
-        private void rank(Scale scale) {
-            int all = Sets.first(scale.count);
-            for (int g = 0; g < scale.count; g++) {
-                ranked[scale.rankAmong(all, g)] = g;
-            }
+        private boolean isClear(Scale scale, int group, int room) {
+            int nearest = nearestTo(scale, group);
+            return nearest == NONE || scale.gap(group, visible[nearest]) > room;
         }
 
         private int nearestTo(Scale scale, int group) {
             int nearest = NONE;
-            int least = Integer.MAX_VALUE;
+            int least = 0;
             for (int i = 0; i < count; i++) {
                 int gap = scale.gap(group, visible[i]);
-                if (gap < least) {
+                if (nearest == NONE || gap < least) {
                     nearest = i;
                     least = gap;
                 }
@@ -1417,6 +1442,9 @@ public final class ScaleGroups {
             int there = order.setOf(order.otherSides[join]);
             int first = order.firsts[join];
             int second = order.seconds[join];
+            if (first < 0 || first >= MOST || second < 0 || second >= MOST) {
+                return;
+            }
             for (int p = 0; p < order.points.count; p++) {
                 for (int q = 0; q < order.points.count && Sets.has(here, p); q++) {
                     if (Sets.has(there, q)) {
@@ -1446,7 +1474,7 @@ public final class ScaleGroups {
                 nodesByLeast[i] = NONE;
             }
             for (int j = 0; j < order.count; j++) {
-                totals[j] = Math.max(order.lasts(JOIN_NODE + j), sidesTotal(order, j));
+                totals[j] = Math.max(order.lastsOf(JOIN_NODE + j), sidesTotal(order, j));
                 open[j] = j == order.count - 1;
             }
             if (order.count > 0) {
@@ -1462,25 +1490,27 @@ public final class ScaleGroups {
         }
 
         private int totalOf(Order order, int node) {
-            return node >= JOIN_NODE ? totals[node - JOIN_NODE] : order.lasts(node);
+            int join = Order.joinOf(node);
+            return join != NONE ? totals[join] : order.lastsOf(node);
         }
 
         private void chooseJoins(Order order) {
             for (int j = order.count - 1; j >= 0; j--) {
                 if (open[j]) {
-                    if (order.lasts(JOIN_NODE + j) >= sidesTotal(order, j)) {
+                    if (order.lastsOf(JOIN_NODE + j) >= sidesTotal(order, j)) {
                         put(order, JOIN_NODE + j);
                     } else {
-                        open(order, order.firstSides[j]);
-                        open(order, order.otherSides[j]);
+                        openNode(order, order.firstSides[j]);
+                        openNode(order, order.otherSides[j]);
                     }
                 }
             }
         }
 
-        private void open(Order order, int node) {
-            if (node >= JOIN_NODE) {
-                open[node - JOIN_NODE] = true;
+        private void openNode(Order order, int node) {
+            int join = Order.joinOf(node);
+            if (join != NONE) {
+                open[join] = true;
             } else {
                 put(order, node);
             }
