@@ -1317,22 +1317,18 @@ public final class ScaleGroups {
         }
 
         void lay(Scale scale, int room) {
-            int waiting = Sets.first(scale.count);
+            int all = Sets.first(scale.count);
             count = 0;
             for (int i = 0; i < scale.count; i++) {
-                int group = scale.heaviest(Sets.first(scale.count), i);
+                int group = scale.heaviest(all, i);
                 if (group != NONE && isClear(scale, group, room)) {
-                    waiting &= ~(1 << group);
-                    holders[group] = count;
                     visible[count] = group;
                     count++;
                 }
             }
-            // Only now, as one SHOWN later may be nearer than those that hid it.
+            // Only now, as one SHOWN later may be nearer than those that hid it. A SHOWN one is nearest to itself.
             for (int g = 0; g < scale.count; g++) {
-                if (Sets.has(waiting, g)) {
-                    holders[g] = nearestTo(scale, g);
-                }
+                holders[g] = nearestTo(scale, g);
             }
         }
 

@@ -54,6 +54,7 @@ public final class Promises {
         would();
         stirred();
         look();
+        fullMap();
         anyOrder();
         for (int i = 1; i <= 40; i++) {
             if (tested[i] == 0) {
@@ -97,6 +98,11 @@ public final class Promises {
             map.add(x, 0, 1);
         }
         return map;
+    }
+
+    /** Corners 0 (100, 300), 1 (130, 360), 2 (150, 250), 4 (210, 350), 5 (220, 280), and 3 within. */
+    private static ScaleGroups pentagon() {
+        return map(100, 300, 1, 130, 360, 1, 150, 250, 1, 160, 300, 1, 210, 350, 1, 220, 280, 1);
     }
 
     private static void newObject() {
@@ -413,6 +419,8 @@ public final class Promises {
         due("meets(1, 1)", map.meets(1, 1), NONE);
         due("meets(0, 4)", map.meets(0, 4), NONE);
         due("meets(-1, 0)", map.meets(-1, 0), NONE);
+        due("meets(0, 34)", map.meets(0, 34), NONE);
+        due("meets(34, 0)", map.meets(34, 0), NONE);
         due("meets(LEAST, MOST)", map.meets(LEAST, MOST), NONE);
         due("meets(0, 0) of one", line(1).meets(0, 0), NONE);
         due("meets(0, 1) of none", new ScaleGroups().meets(0, 1), NONE);
@@ -427,6 +435,13 @@ public final class Promises {
             due("path(2, 3, " + i + ")", map.path(2, 3, i), way[i]);
             due("path(3, 2, " + i + ")", map.path(3, 2, i), way[3 - i]);
         }
+        // The way turns aside nowhere: 0 and 1 hang on 2 of a star, as do 3 and 4.
+        ScaleGroups star = map(50, 50, 1, 0, 50, 1, 100, 50, 1, 50, 0, 1, 50, 100, 1);
+        due("path(0, 4, 1) of a star", star.path(0, 4, 1), 2);
+        due("path(0, 4, 2) of a star", star.path(0, 4, 2), 4);
+        due("path(3, 4, 1) of a star", star.path(3, 4, 1), 2);
+        due("path(3, 4, 2) of a star", star.path(3, 4, 2), 4);
+        due("path(3, 4, NONE) of a star", star.path(3, 4, NONE), 2);
         due("path(2, 3, 4)", map.path(2, 3, 4), NONE);
         due("path(2, 3, -2)", map.path(2, 3, -2), NONE);
         due("path(1, 1, NONE)", map.path(1, 1, NONE), 0);
@@ -541,6 +556,14 @@ public final class Promises {
         // (10 times 3 and 500 times 7) by 17, (30 times 2 and 500 times 7) by 17
         due("group(0, 0, 7)", map.group(0, 0, 7), 207);
         due("group(0, 0, 8)", map.group(0, 0, 8), 209);
+        ScaleGroups aside = map(200, 500, 1, 210, 400, 1, 220, 450, 1, 900, 10, 1);
+        int[] due = {200, 220, 400, 500};
+        for (int what = 3; what <= 6; what++) {
+            due("group(3, 0, " + what + ")", aside.group(3, 0, what), due[what - 3]);
+        }
+        due("group(10, 0, 5)", aside.group(10, 0, 5), 500);
+        due("group(10, 1, 9) of the least WEIGHT", aside.group(10, 1, 9), 1);
+        due("group(10, 0, 11) of two", line(7, 8).group(10, 0, 11), 1);
         ScaleGroups like = map(0, 0, 4, 1, 0, 9, 2, 0, 9);
         due("group(0, 0, 9), of like WEIGHTS the least", like.group(0, 0, 9), 1);
         ScaleGroups chain = line(0, 10, 20, 30);
@@ -605,6 +628,16 @@ public final class Promises {
             due("window(1, 0, 9, 7, 6, " + what + ")", map.window(1, 0, 9, 7, 6, what), 0);
             due("window(0, none) of none", new ScaleGroups().window(0, 0, 1023, 0, 1023, what), 0);
         }
+        due("window(1, 5, 1023, 0, 1023, 2)", map.window(1, 5, 1023, 0, 1023, 2), 2);
+        due("window(1, 0, 499, 0, 1023, 2)", map.window(1, 0, 499, 0, 1023, 2), 3);
+        due("window(1, 0, 1023, 20, 1023, 2)", map.window(1, 0, 1023, 20, 1023, 2), 2);
+        due("window(1, 0, 1023, 0, 20, 2)", map.window(1, 0, 1023, 0, 20, 2), 2);
+        due("window(1, 10, 10, 0, 0, 3)", map.window(1, 10, 10, 0, 0, 3), 3);
+        due("window(1, 11, 499, 0, 499, 3)", map.window(1, 11, 499, 0, 499, 3), 0);
+        // What a scale of more GROUPS left behind is not in it.
+        due("groupOf(10, 3)", map.groupOf(10, 3), 3);
+        due("window(0, whole, 0)", map.window(0, 0, 1023, 0, 1023, 0), 1);
+        due("window(0, whole, 1)", map.window(0, 0, 1023, 0, 1023, 1), 17);
         due("window(1, 3, 3, 6, 6, 0)", map.window(1, 3, 3, 6, 6, 0), 1);
         due("window(1, 4, 9, 0, 9, 0)", map.window(1, 4, 9, 0, 9, 0), 0);
         due("window(1, 0, 9, 0, 5, 0)", map.window(1, 0, 9, 0, 5, 0), 0);
@@ -680,10 +713,12 @@ public final class Promises {
         // A square has as many places a side as a TILE: 16 at z 6.
         due("densest(6, 3), its side wide", line(0, 16).densest(6, 3), 1);
         due("densest(6, 3), less wide", line(0, 15).densest(6, 3), 2);
-        // Its least x and y may be those of two POINTS: here 10 and 20.
-        ScaleGroups two = map(10, 30, 5, 20, 20, 5);
+        // Its least x and y may be those of two POINTS: here 10 and 25.
+        ScaleGroups two = map(10, 33, 5, 20, 25, 5);
         due("densest(6, 0)", two.densest(6, 0), 10);
-        due("densest(6, 1)", two.densest(6, 1), 20);
+        due("densest(6, 1)", two.densest(6, 1), 25);
+        due("densest(6, 3)", two.densest(6, 3), 2);
+        due("densest(10, 0) of the least WEIGHT", line(5).densest(10, 0), 5);
         due("densest(6, 2)", two.densest(6, 2), 10);
         // Of several the least x, then y.
         ScaleGroups like = map(100, 300, 4, 300, 100, 4, 100, 600, 4);
@@ -744,6 +779,13 @@ public final class Promises {
         due("outline(0, 0, 0) of a line", diagonal.outline(0, 0, 0), 0);
         due("outline(0, 0, 1) of a line", diagonal.outline(0, 0, 1), 2);
         due("outline(0, 0, 2) of a line", diagonal.outline(0, 0, 2), NONE);
+        ScaleGroups pentagon = pentagon();
+        int[] round = {0, 2, 5, 4, 1};
+        due("outline(0, 0, NONE) of five corners", pentagon.outline(0, 0, NONE), 5);
+        for (int i = 0; i < 5; i++) {
+            due("outline(0, 0, " + i + ") of five corners", pentagon.outline(0, 0, i), round[i]);
+        }
+        due("outline(0, 0, NONE) of the least", map(0, 0, 1, 1, 0, 1, 0, 1, 1).outline(0, 0, NONE), 3);
         // A square with POINTS on its edges and within: those are no corners.
         ScaleGroups square = map(0, 0, 1, 0, 10, 1, 0, 20, 1, 10, 0, 1, 10, 10, 1, 10, 20, 1, 20, 0, 1, 20, 10, 1,
                 20, 20, 1);
@@ -765,6 +807,8 @@ public final class Promises {
         due("area(1, -1)", map.area(1, -1), NONE);
         due("area(11, 0)", map.area(11, 0), NONE);
         due("area(0, 0) of none", new ScaleGroups().area(0, 0), NONE);
+        due("area(0, 0) of five corners", pentagon().area(0, 0), 18300);
+        due("area(0, 0) of the least", map(0, 0, 1, 1, 0, 1, 0, 1, 1).area(0, 0), 1);
         due("area(0, 0) of a line", map(0, 0, 1, 10, 10, 1, 20, 20, 1).area(0, 0), 0);
         ScaleGroups whole = map(0, 0, 1, 0, 1023, 1, 1023, 0, 1, 1023, 1023, 1);
         due("area(0, 0) of the whole map", whole.area(0, 0), 2 * 1023 * 1023);
@@ -813,6 +857,12 @@ public final class Promises {
         due("tile(11, 0, 0, 0)", map.tile(11, 0, 0, 0), NONE);
         due("tile(-1, 0, 0, 0)", map.tile(-1, 0, 0, 0), NONE);
         due("tile(0, 0, 0, 0) of none", new ScaleGroups().tile(0, 0, 0, 0), 0);
+        // CENTRES at both edges of a TILE of one place.
+        int[][] beside = {{10, 0, 1}, {9, 0, 0}, {11, 0, 0}, {0, 30, 1}, {0, 29, 0}, {0, 31, 0}};
+        for (int[] place : beside) {
+            due("tile(10, " + place[0] + ", " + place[1] + ", 2)", map.tile(10, place[0], place[1], 2), place[2]);
+        }
+        due("tile(6, 0, 0, 3), with one beyond its edge", map(0, 0, 1, 0, 16, 1).tile(6, 0, 0, 3), 1);
         due("tile(1, 0, 0, 3), the greater x", line(256).tile(1, 0, 0, 3), 2);
         due("tile(1, 0, 0, 3), the greater y", map(0, 256, 1).tile(1, 0, 0, 3), 4);
         due("tile(1, 0, 0, 0), beyond its edge", line(512).tile(1, 0, 0, 0), 0);
@@ -856,6 +906,15 @@ public final class Promises {
         due("clearest() of a near two", line(0, 1, 101, 201).clearest(), 3);
         // ROOTS 10, 20, 30
         due("clearest() of like ones", line(0, 10, 30, 60).clearest(), 2);
+        // What a POINT that went left behind does not matter.
+        ScaleGroups gone = line(0, 10, 25, 50, 1000);
+        due("clearest()", gone.clearest(), 2);
+        gone.take(4);
+        due("clearest() after take", gone.clearest(), 2);
+        gone.take(3);
+        due("clearest() after take", gone.clearest(), 2);
+        gone.take(2);
+        due("clearest() after take", gone.clearest(), NONE);
         // ROOTS 10, 40, 50, 60: 30, 10, 10
         due("clearest()", line(0, 10, 50, 100, 160).clearest(), 4);
     }
@@ -898,6 +957,14 @@ public final class Promises {
         due("best(0)", nearer.best(0), 10 + 10 + 19);
         due("best(1)", nearer.best(1), 3);
         due("best(11)", nearer.best(11), 1);
+        // ROOTS 10 and 30: after the far one went, as if it had never been.
+        ScaleGroups gone = line(0, 10, 40);
+        due("best(1)", gone.best(1), 2);
+        gone.take(2);
+        due("best(0) after take", gone.best(0), 20);
+        due("best(1) after take", gone.best(1), 2);
+        due("best(10) after take", gone.best(10), 0);
+        due("best(11) after take", gone.best(11), 1);
         // NODES by their least POINTS: a JOIN may be between POINTS, or the last.
         ScaleGroups far = line(0, 500, 501);
         due("best(10)", far.best(10), 0);
@@ -928,6 +995,16 @@ public final class Promises {
         due("shown(LEAST)", map.shown(LEAST), NONE);
         due("shown(0) of none", new ScaleGroups().shown(0), 0);
         due("shown(0) of one", line(1).shown(0), 1);
+        // By x or by y, the greater: 40 and 20 at z 5, whose RADIUS is 32 and SIZE 31 at most.
+        ScaleGroups wide = map(300, 100, 1, 340, 120, 1);
+        wide.size(999);
+        due("shown(5), farther by x", wide.shown(5), 2);
+        ScaleGroups high = map(300, 100, 1, 320, 140, 1);
+        high.size(999);
+        due("shown(5), farther by y", high.shown(5), 2);
+        ScaleGroups slant = map(300, 100, 1, 330, 130, 1);
+        slant.size(999);
+        due("shown(5), by neither", slant.shown(5), 1);
         // Of a hidden one's place nothing is kept free: A hides B, B does not hide C.
         ScaleGroups row = map(0, 0, 9, 60, 60, 5, 110, 110, 1);
         row.size(999);
@@ -1082,9 +1159,10 @@ public final class Promises {
         due("stirred(2) by the middle", map.stirred(2), 0);
         map.add(0, 0, 1);
         due("stirred(3), by a refused add too", map.stirred(3), 1);
-        // Two on one side, three on the other: six pairs.
-        ScaleGroups six = line(0, 50, 250, 300, 350);
-        six.add(150, 0, 1);
+        // Two on one side, three on the other: six pairs, whatever was asked ahead.
+        ScaleGroups six = map(0, 7, 1, 50, 8, 1, 250, 9, 1, 300, 10, 1, 350, 11, 1);
+        six.add(150, 9, 1);
+        due("near(1023, 1023, 0)", six.near(1023, 1023, 0), 5);
         due("stirred(3)", six.stirred(3), 6);
         six.clear();
         due("stirred(3) after clear", six.stirred(3), 0);
@@ -1109,6 +1187,92 @@ public final class Promises {
         }
         ScaleGroups star = map(50, 50, 1, 0, 50, 1, 100, 50, 1, 50, 0, 1, 50, 100, 1);
         due("look(7) of a star", star.look(7), 4);
+        due("look(6) of a star", star.look(6), 10000);
+        star.add(50, 201, 1);
+        due("look(6) of a longer one", star.look(6), 201 * 201);
+        star.take(0);
+        due("look(7) of a star less one", star.look(7), 3);
+    }
+
+    /** 24 POINTS, 40 from one another on a line: GROUPS of z 4 (64) are one, of z 5 (32) 24. */
+    private static void fullMap() {
+        ScaleGroups map = new ScaleGroups();
+        for (int i = 0; i < 24; i++) {
+            map.add(40 * i, 0, 1);
+        }
+        fullMapOrder(map);
+        fullMapScales(map);
+    }
+
+    private static void fullMapOrder(ScaleGroups map) {
+        promise = 11;
+        due("near(0, 0, 23)", map.near(0, 0, 23), 23);
+        due("near(0, 0, 24)", map.near(0, 0, 24), NONE);
+        promise = 12;
+        due("join(22, 2)", map.join(22, 2), 23);
+        due("join(22, 3)", map.join(22, 3), 24);
+        due("join(23, 0)", map.join(23, 0), NONE);
+        promise = 13;
+        due("meets(0, 23)", map.meets(0, 23), 22);
+        promise = 14;
+        due("path(0, 23, NONE)", map.path(0, 23, NONE), 23);
+        due("path(23, 0, 22)", map.path(23, 0, 22), 1);
+        due("path(0, 23, 24)", map.path(0, 23, 24), NONE);
+        promise = 15;
+        due("longest(0)", map.longest(0), 920);
+        due("longest(2)", map.longest(2), 23);
+        promise = 31;
+        due("part(24, 23)", map.part(24, 23), 23);
+        due("part(2, 22)", map.part(2, 22), 0);
+        due("part(25, 0)", map.part(25, 0), NONE);
+        promise = 32;
+        due("clearest()", map.clearest(), 2);
+        promise = 33;
+        due("best(0)", map.best(0), 960);
+        due("best(1)", map.best(1), 24);
+        due("best(33)", map.best(33), 23);
+        due("best(34)", map.best(34), NONE);
+        promise = 37;
+        due("repaired(3)", map.repaired(3), 22);
+        promise = 40;
+        due("look(6)", map.look(6), 920 * 920);
+        due("look(7)", map.look(7), 2);
+        due("look(8)", map.look(8), 5 + 6 * 24);
+    }
+
+    private static void fullMapScales(ScaleGroups map) {
+        promise = 22;
+        due("window(5, whole, 0)", map.window(5, 0, 1023, 0, 1023, 0), 24);
+        due("window(5, whole, 3)", map.window(5, 0, 1023, 0, 1023, 3), 24);
+        promise = 23;
+        due("top(5, whole, 23)", map.top(5, 0, 1023, 0, 1023, 23), 23);
+        promise = 24;
+        due("filled(5, NONE)", map.filled(5, NONE), 24);
+        due("filled(5, 23)", map.filled(5, 23), 920 / 32);
+        due("filled(5, 24)", map.filled(5, 24), NONE);
+        promise = 25;
+        due("densest(4, 0)", map.densest(4, 0), 0);
+        due("densest(4, 2)", map.densest(4, 2), 2);
+        promise = 26;
+        due("cover(4, 0)", map.cover(4, 0), 1);
+        promise = 27;
+        due("outline(4, 0, NONE)", map.outline(4, 0, NONE), 2);
+        due("outline(4, 0, 1)", map.outline(4, 0, 1), 23);
+        promise = 29;
+        // 40 times (11.5, 10.5, .. 0.5, twice)
+        due("drift(4)", map.drift(4), 40 * 144);
+        promise = 34;
+        due("shown(5)", map.shown(5), 24);
+        promise = 35;
+        due("label(5, 23, 0)", map.label(5, 23, 0), 23);
+        due("label(5, 24, 0)", map.label(5, 24, 0), NONE);
+        promise = 36;
+        due("counted(5, 23)", map.counted(5, 23), 23);
+        promise = 39;
+        // The last that came was the one at the right.
+        due("stirred(4)", map.stirred(4), 0);
+        map.take(12);
+        due("stirred(4)", map.stirred(4), 12 * 11);
     }
 
     /** All the same in whatever order POINTS came, and though some came between and went. */
