@@ -124,8 +124,7 @@ public final class ScaleGroups {
             case 3:
                 return points.nearestTo(point);
             case 4:
-                int nearest = points.nearestTo(point);
-                return nearest == NONE ? NONE : points.apart(point, nearest);
+                return points.apartFromNearest(point);
             case 5:
                 return now.linksOf(point);
             default:
@@ -376,7 +375,7 @@ public final class ScaleGroups {
             for (int b = 0; b < points.count; b++) {
                 int x = points.xs[a];
                 int y = points.ys[b];
-                int weight = points.weightWithin(x, x + reach, y, y + reach);
+                int weight = points.weightOf(points.within(x, x + reach, y, y + reach));
                 boolean isFirst = x < bestX || x == bestX && y < bestY;
                 if (weight > bestWeight || weight == bestWeight && isFirst) {
                     bestX = x;
@@ -895,6 +894,12 @@ public final class ScaleGroups {
             return nearest;
         }
 
+        int apartFromNearest(int p) {
+            int nearest = nearestTo(p);
+            return nearest == NONE ? NONE : apart(p, nearest);
+        }
+
+        /** The POINTS in a WINDOW. */
         int within(int x0, int x1, int y0, int y1) {
             int set = 0;
             for (int i = 0; i < count; i++) {
@@ -903,16 +908,6 @@ public final class ScaleGroups {
                 }
             }
             return set;
-        }
-
-        int weightWithin(int x0, int x1, int y0, int y1) {
-            int sum = 0;
-            for (int i = 0; i < count; i++) {
-                if (xs[i] >= x0 && xs[i] <= x1 && ys[i] >= y0 && ys[i] <= y1) {
-                    sum += ws[i];
-                }
-            }
-            return sum;
         }
 
         int weightOf(int set) {

@@ -719,6 +719,8 @@ public final class Promises {
         due("densest(6, 1)", two.densest(6, 1), 25);
         due("densest(6, 3)", two.densest(6, 3), 2);
         due("densest(10, 0) of the least WEIGHT", line(5).densest(10, 0), 5);
+        due("densest(10, 2) of the least WEIGHT", line(5).densest(10, 2), 1);
+        due("densest(10, 2), y the greater", map(5, 900, 1).densest(10, 2), 1);
         due("densest(6, 2)", two.densest(6, 2), 10);
         // Of several the least x, then y.
         ScaleGroups like = map(100, 300, 4, 300, 100, 4, 100, 600, 4);
@@ -1059,6 +1061,9 @@ public final class Promises {
         due("counted(4, 1), the nearest", row.counted(4, 1), 2);
         due("counted(4, 2)", row.counted(4, 2), 2);
         due("label(4, 1, 1)", row.label(4, 1, 1), 6);
+        ScaleGroups hidden = map(0, 0, 1, 60, 60, 5, 200, 200, 9);
+        hidden.size(999);
+        due("counted(4, 0), hidden by the second SHOWN", hidden.counted(4, 0), 1);
         // As near to both: the first SHOWN.
         ScaleGroups even = map(0, 0, 8, 60, 60, 1, 120, 120, 9);
         even.size(999);
@@ -1192,6 +1197,7 @@ public final class Promises {
         due("look(6) of a longer one", star.look(6), 201 * 201);
         star.take(0);
         due("look(7) of a star less one", star.look(7), 3);
+        due("look(7), POINT 0's", map(0, 100, 1, 10, 60, 1, 10, 140, 1).look(7), 2);
     }
 
     /** 24 POINTS, 40 from one another on a line: GROUPS of z 4 (64) are one, of z 5 (32) 24. */
