@@ -1078,17 +1078,23 @@ public final class ScaleGroups {
             return join != NONE ? parts[join] : 1 << node;
         }
 
+        /** WEIGHT of a NODE times how much ROOT rises from its own till the JOIN of which it is a SIDE. */
         int lastsOf(int node) {
             int join = joinOf(node);
-            if (join != NONE) {
-                return weightTill(parts[join], roots[join], joinsAbove[join]);
+            int above = joinAbove(node);
+            if (above < 0 || above >= count) {
+                return 0;
             }
-            return node >= 0 && node < MOST ? weightTill(1 << node, 0, pointsAbove[node]) : 0;
+            int own = join != NONE ? roots[join] : 0;
+            return points.weightOf(setOf(node)) * (roots[above] - own);
         }
 
-        /** WEIGHT of a part times how much ROOT rises from its own till the JOIN of which it is a SIDE. */
-        private int weightTill(int part, int root, int above) {
-            return above >= 0 && above < count ? points.weightOf(part) * (roots[above] - root) : 0;
+        private int joinAbove(int node) {
+            int join = joinOf(node);
+            if (join != NONE) {
+                return joinsAbove[join];
+            }
+            return node >= 0 && node < MOST ? pointsAbove[node] : NONE;
         }
 
         /** The part of a POINT by the first JOINS. */
@@ -1452,6 +1458,8 @@ public final class ScaleGroups {
         int total = 0;
         int count = 0;
         private final int[] totals = new int[MOST];
+        // Whether the JOIN itself is as good as both its SIDES' own BEST.
+        private final boolean[] whole = new boolean[MOST];
         private final boolean[] open = new boolean[MOST];
         private final int[] nodesByLeast = new int[MOST];
 
@@ -1465,7 +1473,10 @@ public final class ScaleGroups {
                 nodesByLeast[i] = NONE;
             }
             for (int j = 0; j < order.count; j++) {
-                totals[j] = Math.max(order.lastsOf(JOIN_NODE + j), sidesTotal(order, j));
+                int own = order.lastsOf(JOIN_NODE + j);
+                int sides = sidesTotal(order, j);
+                totals[j] = Math.max(own, sides);
+                whole[j] = own >= sides;
                 open[j] = j == order.count - 1;
             }
             if (order.count > 0) {
@@ -1488,7 +1499,7 @@ public final class ScaleGroups {
         private void chooseJoins(Order order) {
             for (int j = order.count - 1; j >= 0; j--) {
                 if (open[j]) {
-                    if (order.lastsOf(JOIN_NODE + j) >= sidesTotal(order, j)) {
+                    if (whole[j]) {
                         put(order, JOIN_NODE + j);
                     } else {
                         openNode(order, order.firstSides[j]);
