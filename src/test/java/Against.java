@@ -8,6 +8,7 @@ import java.util.List;
 public final class Against {
     private static final int OBJECTS = 300;
     private static final int CALLS = 512;
+    private static final int STYLES = 7;
     private static final int[] WILD = {-1, -2, 10, 11, 24, 25, 99, 100, 999, 1000, 1023, 1024, 9999, -9999, 10000,
             -10000, 65536, 1 << 30, Integer.MAX_VALUE, Integer.MIN_VALUE, Integer.MAX_VALUE - 1};
 
@@ -28,6 +29,7 @@ public final class Against {
     private final List<String> calls = new ArrayList<>();
     private final int style;
     private int called = 0;
+    private int latestX = 0;
 
     private Against(int style) {
         this.style = style;
@@ -35,7 +37,7 @@ public final class Against {
 
     public static void main(String[] args) throws Exception {
         for (int object = 0; object < OBJECTS && wrong == 0; object++) {
-            new Against(object % 6).run(object);
+            new Against(object % STYLES).run(object);
         }
         System.out.println(wrong == 0 ? "Against: all answers are as due" : "Against: " + wrong + " wrong");
         System.exit(wrong == 0 ? 0 : 1);
@@ -106,10 +108,10 @@ public final class Against {
     private int argument(char kind) {
         switch (kind) {
             case 'x':
-                return coordinate();
+                latestX = coordinate();
+                return latestX;
             case 'y':
-                // POINTS on one line, for which corners are but its ends
-                return style == 4 ? next(2) * 100 : coordinate();
+                return style == 4 ? next(2) * 100 : style == 6 ? slantwise() : coordinate();
             case 'w':
                 return style % 2 == 0 ? 1 + next(3) : 1 + next(99);
             case 'a':
@@ -124,7 +126,7 @@ public final class Against {
             case 'v':
                 return next(2) == 0 ? next(1000) : (int) (next(1 << 16) * 65537L * 40503L);
             case 's':
-                return next(4) == 0 ? next(1001) : next(80) * (1 + style);
+                return next(4) == 0 ? next(1001) : style == 6 ? 800 + next(200) : next(80) * (1 + style);
             case 'z':
                 return next(11);
             case 'g':
@@ -165,10 +167,18 @@ public final class Against {
                 // heaps
                 return next(4) * 256 + next(12);
             case 4:
+                // by y on two lines, where corners are but their ends
                 return next(16) * next(64);
+            case 6:
+                return 50 * next(8) + next(3);
             default:
                 return next(2) == 0 ? next(1024) : 1 << next(11);
         }
+    }
+
+    /** 50 by x and by y from others: they are unlike GROUPS of z 4 (64), but with SIZE 999 (62) hide one another. */
+    private int slantwise() {
+        return 50 * (2 * next(4) + latestX / 50 % 2) + next(3);
     }
 
     private static int next(int bound) {

@@ -399,6 +399,17 @@ public final class Several {
         ScaleGroups nearer = Maps.of(100, 100, 9, 160, 160, 1, 219, 219, 8);
         nearer.size(999);
         due.row("counted(4, group), the nearer SHOWN last", g -> nearer.counted(4, g), 0, 0, 2, 2, NONE);
+        // One SHOWN later than the one that hid it counts as well, if it is nearer; as near, the first SHOWN.
+        ScaleGroups later = Maps.of(100, 100, 9, 160, 160, 5, 210, 210, 1);
+        later.size(999);
+        due.row("counted(4, group), the nearer SHOWN later", g -> later.counted(4, g), 0, 0, 2, 2, NONE);
+        due.promise(35);
+        due.row("label(4, 0, what), the nearer SHOWN later", what -> later.label(4, 0, what), 0, 0, 9, 0, NONE);
+        due.row("label(4, 1, what), the nearer SHOWN later", what -> later.label(4, 1, what), 0, 2, 6, 1, NONE);
+        due.promise(36);
+        ScaleGroups asNear = Maps.of(100, 100, 9, 155, 155, 5, 210, 210, 1);
+        asNear.size(999);
+        due.row("counted(4, group), as near, SHOWN later", g -> asNear.counted(4, g), 0, 0, 0, 2, NONE);
         // All four are 55 by x and 40 by y from the one between them.
         ScaleGroups four = Maps.of(200, 200, 1, 145, 160, 5, 255, 160, 6, 145, 240, 7, 255, 240, 4);
         four.size(999);
